@@ -95,7 +95,7 @@ public final class SnowRises {
         kept = null;
         past = new Past();
         tape = new Tape();
-        reader = new Reader();
+        reader = new Reader(tape, now, thought);
         couples = new Couples();
         ways = new Ways();
         plan = new Rounds();
@@ -251,7 +251,7 @@ public final class SnowRises {
         }
         tape.split();
         tape.size = 0;
-        if (!reader.reads(k, tape, now, thought)) {
+        if (!reader.reads(k)) {
             return NONE;
         }
         if (k == VOWS || k == WEATHER) {
@@ -344,7 +344,7 @@ public final class SnowRises {
             return NONE;
         }
         beginThought();
-        int last = now.lastWant();
+        int last = now.wants.greatest(1);
         int worth = 0;
         for (int day = now.day; day <= last; day++) {
             thought.passDay();
@@ -594,6 +594,15 @@ public final class SnowRises {
                 return 0;
             }
             return cells[line * WIDTH + column];
+        }
+
+        /** The greatest number of a column; NONE without lines. */
+        int greatest(int column) {
+            int most = NONE;
+            for (int i = 0; i < count; i++) {
+                most = Math.max(most, cell(i, column));
+            }
+            return most;
         }
 
         void copy(Rows from) {
@@ -1123,7 +1132,8 @@ public final class SnowRises {
         /** FIRST VOID: it goes by who is WED alone, so the DAYS need not be lived through. */
         int firstVoid() {
             int busy = folk.wedSet();
-            for (int ofDay = day; ofDay <= TOLD_DAY_MOST; ofDay++) {
+            int last = vows.greatest(0);
+            for (int ofDay = day; ofDay <= last; ofDay++) {
                 for (int i = 0; i < vows.count; i++) {
                     if (vows.cell(i, 0) != ofDay) {
                         continue;
@@ -1140,14 +1150,6 @@ public final class SnowRises {
 
         boolean isBare(int f) {
             return hasField(f) && snow[f] == 0;
-        }
-
-        int lastWant() {
-            int last = NONE;
-            for (int i = 0; i < wants.count; i++) {
-                last = Math.max(last, wants.cell(i, 1));
-            }
-            return last;
         }
 
         /** Of WANTS of a DAY, which has just ended, the first that is not met. */
@@ -1356,20 +1358,26 @@ public final class SnowRises {
      * place of the FAULT, which is 1 unless the method told another one.
      */
     private static final class Reader {
-        int fault = 0;
-        int faultPlace = NONE;
-        private Tape tape;
-        private World told;
-        private World draft;
+        int fault;
+        int faultPlace;
+        private final Tape tape;
+        private final World told;
+        private final World draft;
         private int i;
         private int kind;
         // The value of the NUMBER passed last.
         private int number;
 
-        boolean reads(int k, Tape from, World known, World into) {
+        Reader(Tape from, World known, World into) {
+            fault = 0;
+            faultPlace = NONE;
             tape = from;
             told = known;
             draft = into;
+        }
+
+        /** Reads TEXT k, and all of its lines into the draft; false if there is a FAULT. */
+        boolean reads(int k) {
             i = 0;
             kind = tape.kinds[0];
             fault = 0;
@@ -1548,24 +1556,20 @@ public final class SnowRises {
         /** C, with so many ( and not open. */
         private boolean readsSingle(int open) {
             int first = kind;
-            if (first != NOT && first != '(') {
-                return readsComparison();
+            if (first == NOT || first == '(') {
+                if (open >= OPEN_MOST) {
+                    return refuse(3);
+                }
+                pass();
+                if (first == '(') {
+                    return readsEither(open + 1) && passes(')');
+                }
+                if (!readsSingle(open + 1)) {
+                    return false;
+                }
+                draft.law.put(Law.NOT_CODE);
+                return true;
             }
-            if (open >= OPEN_MOST) {
-                return refuse(3);
-            }
-            pass();
-            if (first == '(') {
-                return readsEither(open + 1) && passes(')');
-            }
-            if (!readsSingle(open + 1)) {
-                return false;
-            }
-            draft.law.put(Law.NOT_CODE);
-            return true;
-        }
-
-        private boolean readsComparison() {
             if (!readsSum()) {
                 return false;
             }
