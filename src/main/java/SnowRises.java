@@ -477,7 +477,7 @@ public final class SnowRises {
         if (what != 0 && what != 1) {
             return NONE;
         }
-        int best = Folk.hopeAmong(now.folk, (1 << now.folk.count) - 1, 0);
+        int best = Folk.hopeAmong(now.folk, (1 << now.folk.count) - 1, now.folk.count - 1);
         return what == 0 ? best >> FOLK_MOST : Folk.EVERYBODY - (best & Folk.EVERYBODY);
     }
 
@@ -691,23 +691,19 @@ public final class SnowRises {
         }
 
         /**
-         * HOPES among a set, as sum * 4096 + (4095 less the set): the greatest such number has the
-         * greatest sum and of its sets the least.
+         * HOPES among those of a set from p downwards, as sum * 4096 + (4095 less the set): the
+         * greatest such number has the greatest sum and of its sets the least.
          */
-        private static int hopeAmong(Folk folk, int set, int depth) {
-            if (set <= 0 || depth >= FOLK_MOST) {
+        private static int hopeAmong(Folk folk, int set, int p) {
+            if (p < 0 || p >= FOLK_MOST) {
                 return EVERYBODY;
             }
-            int p = 31 - Integer.numberOfLeadingZeros(set);
-            if (!folk.has(p)) {
-                return EVERYBODY;
+            int without = set & ~(1 << p);
+            if (without == set || folk.hope[p] == 0) {
+                return hopeAmong(folk, without, p - 1);
             }
-            int rest = set & ~(1 << p);
-            if (folk.hope[p] == 0) {
-                return hopeAmong(folk, rest, depth + 1);
-            }
-            int with = (folk.hope[p] << FOLK_MOST) - (1 << p) + hopeAmong(folk, rest & ~folk.kin[p], depth + 1);
-            return (folk.kin[p] & rest) == 0 ? with : Math.max(with, hopeAmong(folk, rest, depth + 1));
+            int with = (folk.hope[p] << FOLK_MOST) - (1 << p) + hopeAmong(folk, without & ~folk.kin[p], p - 1);
+            return (folk.kin[p] & without) == 0 ? with : Math.max(with, hopeAmong(folk, without, p - 1));
         }
 
         void copy(Folk from) {
@@ -1285,10 +1281,10 @@ public final class SnowRises {
                     continue;
                 }
                 if (isLetter(c)) {
-                    to = lettersEnd(i);
+                    to = Math.max(to, lettersEnd(i));
                     kinds[n] = wordOf(i, to);
                 } else if (isDigit(c)) {
-                    to = digitsEnd(i);
+                    to = Math.max(to, digitsEnd(i));
                     kinds[n] = to - i <= 4 ? NUMBER : NO_TOKEN;
                     values[n] = valueOf(i, to);
                 } else {

@@ -232,6 +232,18 @@ public final class PromisesTest {
         due(7, "at(16, 0)", y.at(16, 0), 49);
         due(7, "at(24, 0)", y.at(24, 0), 20);
         due(7, "NEXT", y.look(7), 50);
+        SnowRises lost = withFour();
+        told(lost, 0, "match 5;lift 99 when far=0;lift 30 when far=2;lift 0;");
+        lost.set(3, 8, 99);
+        lost.set(3, 9, 90);
+        lost.set(3, 10, 95);
+        lost.vow(0, 1, 8);
+        // 49 come to 90: what is above 99 is lost; 15 go from 95, and nothing comes there.
+        due(7, "above 99", lost.at(9, 0), 99);
+        due(7, "at(10, 0)", lost.at(10, 0), 80);
+        due(7, "at(11, 0)", lost.at(11, 0), 25);
+        due(7, "what was lost went on, too", lost.book(0, 3), 49 + 15 + 3 * 10);
+        due(7, "NEXT", lost.look(7), 0);
         SnowRises z = withFour();
         told(z, 0, "match 4;lift 99;");
         z.set(0, 0, 3);
@@ -422,6 +434,14 @@ public final class PromisesTest {
         SnowRises x = withFour();
         faulty(x, 0, "matchx 1;", 1, 0);
         faulty(x, 0, "Match 1;", 1, 0);
+        for (String letter : new String[] {"a", "z", "A", "Z"}) {
+            faulty(x, 0, "match" + letter + " 1;", 1, 0);
+        }
+        for (String none : new String[] {"`", "{", "@", "[", "_", "\u00e9", "\u0000", "\r"}) {
+            faulty(x, 0, "match" + none + " 1;", 1, 5);
+        }
+        faulty(x, 0, "match 1" + "+1".repeat(196) + "/", 1, 400);
+        faulty(x, 3, "+".repeat(400), 1, 0);
         faulty(x, 0, "match 1 ,", 1, 8);
         faulty(x, 0, "match\t1;", 1, 5);
         faulty(x, 0, "match 1 2;", 1, 8);
@@ -450,6 +470,8 @@ public final class PromisesTest {
             s.append("lift ").append(i).append(";");
         }
         due(13, "sixteen lines", told(x, 0, s.toString()), 16);
+        due(13, "the fifteenth and the sixteenth", told(x, 0, "lift 0;".repeat(14) + "match 7 when 1>1;match 8 when 1=1;"), 16);
+        due(16, "the sixteenth", x.match(0, 1, true), 8);
         faulty(x, 0, s + "melt", 3, s.length());
         faulty(x, 0, s + "when", 1, s.length());
         faulty(x, 1, "on 0 0 and 1 at 0", 1, 17);
@@ -894,6 +916,12 @@ public final class PromisesTest {
         due(33, "TEMPERS stay", x.of(2, 1) * 10 + x.of(3, 1), 29);
         told(x, 0, "match 9 when apart=0;match 5;");
         due(33, "one apart stays so", x.comes(2, 3), -1);
+        x.set(4, 2, 5);
+        x.set(4, 3, 6);
+        told(x, 0, "match 9 when temper=6 and hope=0 or temper=5 and hope=7;match 5;");
+        due(33, "one apart: TEMPERS don't change places", x.comes(2, 3), -1);
+        x.set(4, 2, 2);
+        x.set(4, 3, 9);
         told(x, 0, "match 5 when apart>1 or temper<5;match 6;");
         due(33, "5 and 6 at last, of which the lesser", x.comes(2, 3), 3);
         x.vow(2, 3, 0);

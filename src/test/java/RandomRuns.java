@@ -153,7 +153,11 @@ final class RandomRuns {
                 continue;
             }
             if (oneIn(2)) {
-                s.append(new String[] {"9-apart+hope-wish", "found*2-far", "snow/3+1"}[word]);
+                s.append(new String[] {oneIn(3) ? "4" : "9-apart+hope-wish", oneIn(3) ? "99 when far<3" : "found*2-far", "snow/3+1"}[word]);
+                if (s.indexOf("far<3", s.length() - 5) > 0) {
+                    s.append(";");
+                    continue;
+                }
             } else {
                 s.append(expression(upTo(3)));
             }
