@@ -137,6 +137,11 @@ final class Edges {
     static void refused(Supplier<SnowRises> made, String call, ToLongFunction<SnowRises> asked, long want) {
         SnowRises x = made.get();
         due(call, asked.applyAsLong(x), want);
+        changedNothing(made, call, x);
+    }
+
+    /** All that later calls show of one on which a call was made is as of one that was made alike. */
+    static void changedNothing(Supplier<SnowRises> made, String call, SnowRises x) {
         String with = all(x);
         String without = all(made.get());
         int i = 0;

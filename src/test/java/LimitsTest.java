@@ -79,8 +79,8 @@ public final class LimitsTest {
             }
         }
         for (Method m : face) {
-            SnowRises x = full(0);
             for (int v : ODD) {
+                SnowRises x = full(0);
                 for (int v2 : ODD) {
                     Class<?>[] types = m.getParameterTypes();
                     Object[] args = new Object[types.length];
