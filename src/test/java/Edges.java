@@ -120,6 +120,8 @@ final class Edges {
         told(x, 3, "bare 9 on 4 worth 7;bare 0 on 12 worth 5;");
         x.stir(0, 5, true);
         x.stir(1, 2, true);
+        x.vow(0, 1, 9);
+        x.part(0, 1);
         x.set(0, 0, 2);
         x.set(1, 0, 12);
         x.set(2, 0, 300);

@@ -321,7 +321,9 @@ public final class FieldsAndPeopleEdgesTest {
             for (int f = 0; f < 27; f++) {
                 bare += f % 8 < 3 && x.at(f, 0) == 0 ? 1 : 0;
             }
-            int[] want = {3, 4, 2, 2, 12, 300, 6, 0, x.look(8), -77, 3, 3, 2, 2, 2, 1, bare};
+            // FOUND 9 of 0 and 1 at 9: 9 less far, of twelve FIELDS: far 0 once, 1 four, 2 five, 3 two times.
+            int next = 9 + 4 * 8 + 5 * 7 + 2 * 6;
+            int[] want = {3, 4, 2, 2, 12, 300, 6, next, x.look(8), -77, 3, 3, 2, 2, 2, 1, bare};
             for (int what = 0; what < want.length; what++) {
                 Edges.due("look(" + what + ")", x.look(what), want[what]);
             }

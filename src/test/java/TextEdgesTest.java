@@ -245,6 +245,35 @@ public final class TextEdgesTest {
             Edges.taken(x, 0, "melt1when day=1;lift2;match3;", 3);
             Edges.taken(x, 0, "melt snow when not(snow<far)or snow=1and day>0;", 1);
         });
+        String[][] words = {{"match", "lift", "melt"}, {"on"}, {"for"}, {"bare"}};
+        for (int k = 0; k < 4; k++) {
+            int text = k;
+            Edges.sentence(13, "KEYWORDS .. or none: one letter is another one, is wanting or is too many", () -> {
+                for (String word : words[text]) {
+                    for (int i = 0; i < word.length(); i++) {
+                        for (char c = 'a'; c <= 'z'; c++) {
+                            String other = word.substring(0, i) + c + word.substring(i + 1);
+                            if (!other.equals(word)) {
+                                Edges.faulty(new SnowRises(), text, other + " 1;", 1, 0);
+                            }
+                            Edges.faulty(new SnowRises(), text, word.substring(0, i) + c + word.substring(i) + " 1;", 1, 0);
+                        }
+                        Edges.faulty(new SnowRises(), text, word.substring(0, i) + word.substring(i + 1) + " 1;", 1, 0);
+                    }
+                    Edges.faulty(new SnowRises(), text, word + "z 1;", 1, 0);
+                    Edges.faulty(new SnowRises(), text, word + "a 1;", 1, 0);
+                }
+            });
+        }
+        Edges.sentence(13, "KEYWORDS .. or none: names in THE LAW", () -> {
+            for (String word : UNITS.subList(1, UNITS.size())) {
+                for (int i = 0; i < word.length(); i++) {
+                    String other = word.substring(0, i) + "z" + word.substring(i + 1);
+                    Edges.faulty(new SnowRises(), 0, "melt " + other + ";", 1, 5);
+                }
+                Edges.taken(new SnowRises(), 0, "melt " + word + ";", 1);
+            }
+        });
         Edges.sentence(13, "digits as many as stand together NUMBERS of 1 to 4 digits or none", () -> {
             SnowRises x = new SnowRises();
             Edges.taken(x, 0, "melt 9;", 1);
@@ -571,6 +600,37 @@ public final class TextEdgesTest {
         holds("/ goes towards 0", "4096*4096*128/9999/100+2147=0", true);
     }
 
+    private static boolean joined(boolean a, boolean and, boolean b) {
+        return and ? a && b : a || b;
+    }
+
+    private static void so(String b, boolean so) {
+        Edges.due(b, matchBy("match 7 when " + b + ";match 2;"), so ? 7 : 2);
+    }
+
+    private static void truths() {
+        Edges.sentence(16, "B = A {or A}.  A = C {and C}.  C = not C | ( B ): all that can be of three", () -> {
+            for (int i = 0; i < 32; i++) {
+                boolean p = (i & 1) > 0;
+                boolean q = (i & 2) > 0;
+                boolean r = (i & 4) > 0;
+                boolean one = (i & 8) > 0;
+                boolean two = (i & 16) > 0;
+                String a = p ? "1=1" : "1=2";
+                String b = q ? "2>1" : "1>1";
+                String c = r ? "0<1" : "1<1";
+                String x = one ? " and " : " or ";
+                String y = two ? " and " : " or ";
+                so(a + x + b + y + c, two && !one ? p || q && r : joined(joined(p, one, q), two, r));
+                so("(" + a + x + b + ")" + y + c, joined(joined(p, one, q), two, r));
+                so(a + x + "(" + b + y + c + ")", joined(p, one, joined(q, two, r)));
+                so("not " + a + x + "not(" + b + y + c + ")", joined(!p, one, !joined(q, two, r)));
+                so("not(" + a + x + b + ")" + y + "not " + c, joined(!joined(p, one, q), two, !r));
+                so("((" + a + ")" + x + "(not not " + b + "))" + y + "(((" + c + ")))", joined(joined(p, one, q), two, r));
+            }
+        });
+    }
+
     private static void held() {
         String[] nines = {"0-1", "0", "1", "8", "9", "10", "9999", "9999*9999*30", "9999*9999*21"};
         int[] match = {0, 0, 1, 8, 9, 9, 9, 0, 9};
@@ -755,6 +815,7 @@ public final class TextEdgesTest {
         lines();
         opens();
         conditions();
+        truths();
         held();
         names();
         asked();

@@ -223,6 +223,19 @@ public final class ThoughtEdgesTest {
             Edges.due("days(1)", x.days(1), 1);
             Edges.due("of(1, 4)", x.of(1, 4), 2);
         });
+        Edges.sentence(22, "each one of the two can make it VOID, and nobody beside them", () -> {
+            for (int p = 0; p < 12; p++) {
+                for (int wed = 0; wed < 12; wed++) {
+                    SnowRises x = Edges.withTempers(5, 5, 5, 5, 5, 5, 5, 5, 5, 5, 5, 5);
+                    // p and the one across from him in the line; wed is WED to one who is in no line.
+                    int q = (p + 5) % 12;
+                    int with = (wed + 3) % 12;
+                    Edges.told(x, 1, "on 9 " + p + " and " + q + " at 0;");
+                    x.vow(wed, with, 0);
+                    Edges.due("VOID", x.meets(2), p == wed || q == wed || p == with || q == with ? 0 : -1);
+                }
+            }
+        });
         Edges.sentence(22, "a line of DAY 999", () -> {
             SnowRises x = Edges.withTempers(5, 5);
             Edges.told(x, 1, "on 999 0 and 1 at 0;on 998 0 and 1 at 0;");
@@ -296,6 +309,17 @@ public final class ThoughtEdgesTest {
             stableIs(people("match 9;", new int[] {0, 0, 0}), -1);
             stableIs(people("match 9;", new int[] {1, 0, 0}, new int[] {1, 0, 0}), -1, -1);
         });
+        Edges.sentence(23, "of all who are not WED: who was asked or asked ahead of his VOW is out", () -> {
+            int[][] six = {{0, 1, 0}, {1, 1, 0}, {0, 2, 0}, {1, 2, 0}, {0, 9, 0}, {1, 9, 0}};
+            SnowRises x = people("match other;", six);
+            stableIs(x, 1, 0, 3, 2, 5, 4);
+            x.vow(4, 1, 0);
+            stableIs(x, 3, -1, 5, 0, -1, 2);
+            x.part(4, 1);
+            stableIs(x, 1, 0, 3, 2, 5, 4);
+            x.vow(5, 0, 0);
+            stableIs(x, -1, 2, 1, 4, 3, -1);
+        });
         Edges.sentence(23, "six and six", () -> {
             SnowRises x = Edges.withLaw("match 5;", 0, 0, 0, 0, 0, 0, 0, 0, 0, 0, 0, 0);
             stableIs(x, 1, 0, 3, 2, 5, 4, 7, 6, 9, 8, 11, 10);
@@ -314,9 +338,14 @@ public final class ThoughtEdgesTest {
     }
 
     private static void bestIs(SnowRises x, int sum, int... want) {
-        Edges.due("best(0)", x.best(0), sum);
         for (int p = 0; p < want.length; p++) {
             Edges.due("best(" + (10 + p) + ")", x.best(10 + p), want[p]);
+        }
+        Edges.due("best(0)", x.best(0), sum);
+        for (int p = 0; p < want.length; p++) {
+            // What was thought of ahead of it is no matter.
+            x.stable(p);
+            Edges.due("best(" + (10 + p) + ") behind stable", x.best(10 + p), want[p]);
         }
     }
 
@@ -349,6 +378,11 @@ public final class ThoughtEdgesTest {
             bestIs(x, 0, -1, -1, -1, -1);
             x.part(0, 3);
             bestIs(x, 9, 3, -1, -1, 0);
+            int[][] six = {{0, 1, 0}, {1, 1, 0}, {0, 2, 0}, {1, 2, 0}, {0, 9, 0}, {1, 9, 0}};
+            SnowRises y = people("match temper;", six);
+            bestIs(y, 12, 1, 0, 3, 2, 5, 4);
+            y.vow(4, 1, 0);
+            bestIs(y, 3, 3, -1, 5, 0, -1, 2);
         });
         Edges.sentence(24, "nobody, of one SIDE alone", () -> {
             bestIs(new SnowRises(), 0, -1);
@@ -445,6 +479,13 @@ public final class ThoughtEdgesTest {
         Edges.sentence(25, "NONE if none: there are no couples", () -> {
             baresBy(new SnowRises(), 0, -1, -1, -1);
             baresBy(Edges.withTempers(5), 0, -1, -1, -1);
+        });
+        Edges.sentence(25, "NONE if .. another what", () -> {
+            SnowRises x = Edges.withTempers(5, 5);
+            for (int what : new int[] {-1, 3, 4, Edges.LEAST, Edges.MOST}) {
+                baresBy(x, 28, 0, 1, 0);
+                Edges.due("bares(28, " + what + ")", x.bares(28, what), -1);
+            }
         });
         int[][] bad = {{-1, 0}, {3, 0}, {7, 1}, {32, 2}, {64, 0}, {Edges.LEAST, 0}, {Edges.MOST, 0}, {2, -1}, {2, 3}, {2, Edges.LEAST},
             {2, Edges.MOST}};
@@ -605,6 +646,54 @@ public final class ThoughtEdgesTest {
             Edges.due("ask(0)", x.ask(0), 2);
             Edges.due("ask(2)", x.ask(2), 0);
         });
+        Edges.sentence(28, "one and the same FOUND: 0, too", () -> {
+            // FOUND with 9, 9, 8: by 0: 0 0 1; by 9: 9 9 8; of 7, 9, 0: by 9: 7 9 0.
+            SnowRises x = Edges.withTempers(5, 9, 0, 9, 9, 8);
+            Edges.due("ask(0): two alike by each", x.ask(0), 2);
+            x.set(4, 3, 7);
+            Edges.due("ask(0): 9, 7, 8 by 0 and by 9", x.ask(0), 2);
+            x.set(4, 5, 0);
+            x.set(4, 4, 0);
+            x.set(4, 1, 5);
+            x.set(4, 2, 5);
+            // FOUND with 5, 7, 0: by 5: 9 7 4; by 0: 4 2 9.
+            Edges.due("ask(0)", x.ask(0), 2);
+            SnowRises y = people("match other when temper=1;match temper when other=1;match 9-apart;", new int[] {0, 5, 0}, new int[] {1, 0, 0},
+                new int[] {0, 1, 0}, new int[] {1, 0, 0}, new int[] {0, 9, 0}, new int[] {1, 0, 0}, new int[] {0, 8, 0}, new int[] {1, 1, 0});
+            // By 1: 0 0 0 1; by 9: 0 0 0 9 or 1; by 8: 1 1 1 and so on: three alike by each.
+            Edges.due("ask(0): three alike by each", y.ask(0), 2);
+            y.set(4, 1, 3);
+            y.set(4, 3, 4);
+            // By 1: 3 4 0 1; one each.
+            Edges.due("ask(0): by 1 all are unlike", y.ask(0), 2);
+            Edges.due("ask(2): by 9: 3 4 0 1, by 5: 7 8 4 1", y.ask(2), 0);
+            y.set(4, 0, 9);
+            y.set(4, 2, 9);
+            y.set(4, 3, 0);
+            // By 9 of 3, 0, 0, 1: two alike; by 8: 4 1 1 1: three alike.
+            Edges.due("ask(6)", y.ask(6), 0);
+            Edges.due("ask(0)", y.ask(0), 2);
+        });
+        Edges.sentence(28, "PEOPLE from 0 on are counted", () -> {
+            // a is 3; of 0, 2, 4: by 1: 9 9 5; by 5: 7 3 9.
+            SnowRises x = Edges.withTempers(7, 7, 3, 0, 9, 5);
+            Edges.due("7, 3, 9 by 7: 9 5 7", x.ask(3), 1);
+            x.set(4, 1, 5);
+            x.set(4, 2, 9);
+            Edges.due("7, 9, 9 by 5: 7 5 5; by 5", x.ask(3), 1);
+            x.set(4, 0, 9);
+            x.set(4, 4, 1);
+            x.set(4, 5, 8);
+            Edges.due("9, 9, 1 by 5: 5 5 5; by 8: 8 8 2", x.ask(3), 5);
+            x.set(4, 2, 2);
+            x.set(4, 4, 4);
+            // 9, 2, 4 by 5: 5 6 8; by 8: 8 3 5.
+            Edges.due("all unlike by each", x.ask(3), 1);
+            x.set(4, 2, 1);
+            x.set(4, 4, 6);
+            // 9, 1, 6 by 5: 5 5 8; by 8: 8 2 7.
+            Edges.due("0 and 2 are alike by 1", x.ask(3), 5);
+        });
         Edges.sentence(28, "those of WHO alone are counted", () -> {
             // FOUND of 0 with 1, 3, 5, 7: 8, 8, 6, 6.
             SnowRises x = people("match 9-apart;", new int[] {0, 5, 0}, new int[] {1, 4, 0}, new int[] {0, 7, 0}, new int[] {1, 6, 0},
@@ -682,6 +771,19 @@ public final class ThoughtEdgesTest {
             Edges.due("safe: cut off", x.safe(0, 48), -1);
             Edges.due("safe ahead of it", x.safe(0, 16), 16);
         });
+        Edges.sentence(30, "whatever was asked ahead", () -> {
+            SnowRises x = bare(3, 3);
+            setSteep(x, 9);
+            for (int i = 0; i < 2; i++) {
+                Edges.due("safe(8, 0)", x.safe(8, 0), 1);
+                Edges.due("safe(8, 1)", x.safe(8, 1), 2);
+                Edges.due("safe(1, 8)", x.safe(1, 8), 2);
+                Edges.due("safe(10, 8)", x.safe(10, 8), 4);
+                Edges.due("safe(17, 10)", x.safe(17, 10), 2);
+                Edges.due("safe(0, 18)", x.safe(0, 18), 4);
+                Edges.due("safe(8, 17)", x.safe(8, 17), 2);
+            }
+        });
         Edges.sentence(30, "all is STEEP", () -> {
             SnowRises x = new SnowRises();
             x.set(1, 0, 10);
@@ -732,15 +834,20 @@ public final class ThoughtEdgesTest {
             y.set(3, 34, 59);
             Edges.due("a wall but for two", y.cut(8, 12), 2);
         });
-        Edges.sentence(31, "a way found first must be led anew", () -> {
-            // Two ways that share nothing are there, though the shortest way takes from both.
-            SnowRises x = bare(5, 3);
-            setSteep(x, 0, 4, 16, 20);
-            Edges.due("cut(8, 12)", x.cut(8, 12), 1);
-            SnowRises y = bare(6, 4);
-            setSteep(y, 0, 5, 3, 26, 24, 29);
-            Edges.due("cut(8, 21)", y.cut(8, 21), 2);
+        Edges.sentence(31, "one FIELD in which two ways meet", () -> {
+            SnowRises x = bare(3, 3);
+            setSteep(x, 2, 16);
+            Edges.due("cut(0, 18)", x.cut(0, 18), 1);
+            Edges.due("cut(18, 0)", x.cut(18, 0), 1);
+            Edges.due("cut(0, 9)", x.cut(0, 9), 2);
+            SnowRises y = bare(8, 7);
+            for (int f = 0; f < 7; f++) {
+                setSteep(y, 8 + f, 24 + f + 1, 40 + f);
+            }
+            Edges.due("a long way", y.cut(0, 48), 1);
+            Edges.due("and back", y.cut(48, 0), 1);
         });
+        Edges.sentence(31, "which, if they were STEEP, too, left no way: by trying all", ThoughtEdgesTest::cutByTrying);
         Edges.sentence(31, "NONE if they are side by side", () -> {
             SnowRises x = bare(5, 5);
             for (int f : new int[] {10, 17, 19, 26}) {
@@ -763,6 +870,67 @@ public final class ThoughtEdgesTest {
             x.set(1, 0, 59);
             Edges.due("cut(0, 18)", x.cut(0, 18), -1);
         });
+    }
+
+    /** On one object at a time some valleys by chance, of all that are not side by side some. */
+    private static void cutByTrying() {
+        java.util.Random random = new java.util.Random(11);
+        for (int round = 0; round < 60; round++) {
+            int w = 3 + round % 4;
+            int h = 3 + round % 2;
+            SnowRises x = bare(w, h);
+            boolean[] open = new boolean[64];
+            int[] fields = new int[w * h];
+            for (int i = 0; i < w * h; i++) {
+                fields[i] = 8 * (i / w) + i % w;
+                open[fields[i]] = random.nextInt(5) > 0;
+                if (!open[fields[i]]) {
+                    setSteep(x, fields[i]);
+                }
+            }
+            for (int i = 0; i < 12; i++) {
+                int a = fields[random.nextInt(w * h)];
+                int b = fields[random.nextInt(w * h)];
+                int steps = Math.abs(a % 8 - b % 8) + Math.abs(a / 8 - b / 8);
+                int want = steps < 2 || !open[a] || !open[b] ? -1 : fewest(fields, open, a, b);
+                Edges.due("cut(" + a + ", " + b + ") of valley " + round, x.cut(a, b), want);
+            }
+        }
+    }
+
+    private static int fewest(int[] fields, boolean[] open, int a, int b) {
+        int most = 0;
+        while (!leavesNoWay(fields, open, 0, most, a, b)) {
+            most++;
+        }
+        return most;
+    }
+
+    private static boolean leavesNoWay(int[] fields, boolean[] open, int from, int more, int a, int b) {
+        if (more == 0) {
+            return !reaches(open.clone(), a, b);
+        }
+        for (int i = from; i < fields.length; i++) {
+            int f = fields[i];
+            if (open[f] && f != a && f != b) {
+                open[f] = false;
+                boolean none = leavesNoWay(fields, open, i + 1, more - 1, a, b);
+                open[f] = true;
+                if (none) {
+                    return true;
+                }
+            }
+        }
+        return false;
+    }
+
+    private static boolean reaches(boolean[] open, int a, int b) {
+        if (a < 0 || a >= 64 || !open[a]) {
+            return false;
+        }
+        open[a] = false;
+        return a == b || reaches(open, a - 8, b) || reaches(open, a + 8, b) || a % 8 > 0 && reaches(open, a - 1, b)
+            || a % 8 < 7 && reaches(open, a + 1, b);
     }
 
     private static void roundsAre(SnowRises x, int days, int... want) {
@@ -875,6 +1043,24 @@ public final class ThoughtEdgesTest {
         comesOf("match 9 when temper=4 and other=6;match 9 when temper=6 and other=4;match 0;", 5, 5, -1);
         comesOf("match 9 when temper=5 and other=4;match 9 when temper=4 and other=5;match 0;", 9, 0, 4);
         comesOf("match 9 when temper=5 and other=4;match 0;", 9, 0, -1);
+        Edges.sentence(33, "unless they are one or none apart: TEMPERS one apart don't change places", () -> {
+            SnowRises x = Edges.withLaw("match 9 when temper=6 and hope=1 or temper=5 and hope=2;match 5;", 5, 6);
+            x.set(5, 0, 1);
+            x.set(5, 1, 2);
+            Edges.due("5 and 6", x.comes(0, 1), -1);
+            x.set(4, 0, 6);
+            x.set(4, 1, 5);
+            Edges.due("6 and 5", x.comes(0, 1), 0);
+            Edges.told(x, 0, "match 9 when temper=6 and hope=1 or temper=4 and hope=2;match 5;");
+            x.set(4, 0, 5);
+            Edges.due("5 and 5", x.comes(0, 1), -1);
+            x.set(4, 0, 8);
+            x.set(4, 1, 2);
+            Edges.due("8 and 2, 7 and 3, 6 and 4", x.comes(0, 1), 2);
+            x.set(4, 0, 4);
+            x.set(4, 1, 6);
+            Edges.due("4 and 6, 5 and 5", x.comes(0, 1), -1);
+        });
         Edges.sentence(33, "(all else as now)", () -> {
             SnowRises x = Edges.withLaw("match 6 when day>0;match 0;", 5, 5);
             Edges.due("DAY", x.comes(0, 1), -1);

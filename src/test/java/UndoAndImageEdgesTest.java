@@ -55,7 +55,16 @@ public final class UndoAndImageEdgesTest {
         back(words + ": another VOW", x -> { }, x -> x.vow(5, 4, 9));
         back(words + ": a DAY", x -> { }, x -> x.days(1));
         back(words + ": a DAY with VOID lines", x -> x.days(1), x -> x.days(1));
-        back(words + ": a DAY of avalanches", x -> x.days(3), x -> x.days(1));
+        back(words + ": a DAY of avalanches", x -> {
+            for (int f : new int[] {1, 2, 3, 9, 10, 11}) {
+                x.set(3, f, 80);
+            }
+        }, x -> {
+            int state = x.look(9);
+            x.days(1);
+            Edges.due("there were DRAWS", x.look(9) != state, true);
+            Edges.due("and avalanches", x.look(8) > 1, true);
+        });
         back(words + ": a PARTING", x -> x.vow(1, 2, 0), x -> x.part(1, 2));
         back(words + ": a SWEEPING", x -> x.vow(1, 2, 0), x -> x.sweep(10));
         back(words + ": a SWEEPING of a bare FIELD", x -> x.sweep(10), x -> x.sweep(10));
@@ -337,6 +346,12 @@ public final class UndoAndImageEdgesTest {
             Edges.due("it is another one", whole(x).equals(was), false);
             Edges.due("image(false)", x.image(false), true);
             Edges.due("as it was when it was taken", whole(x).equals(was), true);
+            x.valley(8, 7);
+            for (int i = 0; i < 12; i++) {
+                x.person(1 - i % 2, 5, 5, 55);
+            }
+            x.image(false);
+            Edges.due("as it was, all PEOPLE told anew between", whole(x).equals(was), true);
         });
         Edges.sentence(38, "gone back to it may be more than once", () -> {
             SnowRises x = Edges.rich();

@@ -285,6 +285,17 @@ public final class VowAndDayEdgesTest {
             Edges.due("who have parted can", x.days(1), 1);
             line(x, 7, 2, 2, 0, 0);
         });
+        Edges.sentence(10, "of its two, at its FIELD", () -> {
+            SnowRises x = couple("match 6;lift 5 when far=0;lift 0;");
+            Edges.told(x, 1, "on 0 0 and 3 at 28;on 0 1 and 2 at 9;");
+            Edges.due("days(1)", x.days(1), 2);
+            snowOf(x, 0, 1, 10, 10, 10, 10);
+            snowOf(x, 8, 1, 10, 5, 10, 10);
+            snowOf(x, 24, 1, 10, 10, 10, 10, 5);
+            Edges.due("of(0, 4)", x.of(0, 4), 3);
+            Edges.due("of(2, 4)", x.of(2, 4), 1);
+            line(x, 1, 0, 0, 1, 5);
+        });
         Edges.sentence(10, "lines for this DAY, not for one gone by", () -> {
             SnowRises x = couple("match 2;");
             x.days(3);
