@@ -590,6 +590,9 @@ public final class TextEdgesTest {
         holds("T = U {* U | / NUMBER}", "0/7=0", true);
         holds("T = U {* U | / NUMBER}", "6/7=0", true);
         holds("T = U {* U | / NUMBER}", "7/7=1", true);
+        holds("T = U {* U | / NUMBER}", "7/1=7", true);
+        holds("T = U {* U | / NUMBER}", "9999/9999=1", true);
+        holds("T = U {* U | / NUMBER}", "9998/9999=0", true);
         holds("Ints, which wrap", "9999*9999*30<0", true);
         holds("Ints, which wrap", "9999*9999*21>0", true);
         holds("Ints, which wrap", "9999*9999*21+9999*9999<0", true);

@@ -847,6 +847,16 @@ public final class ThoughtEdgesTest {
             Edges.due("a long way", y.cut(0, 48), 1);
             Edges.due("and back", y.cut(48, 0), 1);
         });
+        Edges.sentence(31, "ways that can't be counted without leading an earlier one anew", () -> {
+            cutOf(7, 4, 5, 19, 3, 10, 20);
+            cutOf(6, 4, 18, 12, 3, 20, 26);
+            cutOf(4, 6, 34, 9, 3, 8, 33);
+            cutOf(6, 5, 25, 11, 3, 10, 28, 33);
+            cutOf(5, 7, 42, 19, 3, 8, 10, 20, 28, 43, 52);
+            cutOf(8, 6, 30, 18, 4, 0, 7, 24, 27, 34, 37, 40);
+            cutOf(8, 7, 14, 42, 4, 18, 27, 38, 39, 44, 54);
+            cutOf(8, 7, 21, 17, 4, 19, 30, 31, 36, 39, 41, 43, 49);
+        });
         Edges.sentence(31, "which, if they were STEEP, too, left no way: by trying all", ThoughtEdgesTest::cutByTrying);
         Edges.sentence(31, "NONE if they are side by side", () -> {
             SnowRises x = bare(5, 5);
@@ -872,12 +882,25 @@ public final class ThoughtEdgesTest {
         });
     }
 
-    /** On one object at a time some valleys by chance, of all that are not side by side some. */
+    private static void cutOf(int w, int h, int a, int b, int want, int... steep) {
+        SnowRises x = bare(w, h);
+        setSteep(x, steep);
+        Edges.due("cut(" + a + ", " + b + ") of " + w + " by " + h, x.cut(a, b), want);
+        boolean[] open = new boolean[64];
+        int[] fields = new int[w * h];
+        for (int i = 0; i < w * h; i++) {
+            fields[i] = 8 * (i / w) + i % w;
+            open[fields[i]] = x.at(fields[i], 0) == 0;
+        }
+        Edges.due("by trying all", fewest(fields, open, a, b), want);
+    }
+
+    /** Valleys by chance, many questions to each one: what was found ahead is no matter. */
     private static void cutByTrying() {
         java.util.Random random = new java.util.Random(11);
-        for (int round = 0; round < 60; round++) {
-            int w = 3 + round % 4;
-            int h = 3 + round % 2;
+        for (int round = 0; round < 66; round++) {
+            int w = round < 60 ? 3 + round % 4 : 8;
+            int h = round < 60 ? 3 + round % 2 : 7;
             SnowRises x = bare(w, h);
             boolean[] open = new boolean[64];
             int[] fields = new int[w * h];
